@@ -1,6 +1,7 @@
 import java.util.ArrayList;
 import java.util.Arrays;
 import java.util.List;
+import java.util.function.IntUnaryOperator;
 
 /** Writes requests, and reads replies and sheets as texts of numbers. */
 final class Request {
@@ -115,17 +116,20 @@ final class Request {
     }
 
     static String reply(PrintHouse house) {
-        StringBuilder text = new StringBuilder();
-        for (int k = 0; house.reply(k) != PrintHouse.NONE; k++) {
-            text.append(k == 0 ? "" : " ").append(house.reply(k));
-        }
-        return text.toString();
+        return all(house::reply);
     }
 
     static String sheet(PrintHouse house) {
+        return all(house::sheet);
+    }
+
+    /** Asks once for each byte: an object is good for 512 calls. */
+    private static String all(IntUnaryOperator byteAt) {
         StringBuilder text = new StringBuilder();
-        for (int k = 0; house.sheet(k) != PrintHouse.NONE; k++) {
-            text.append(k == 0 ? "" : " ").append(house.sheet(k));
+        int value = byteAt.applyAsInt(0);
+        for (int k = 1; value != PrintHouse.NONE; k++) {
+            text.append(k == 1 ? "" : " ").append(value);
+            value = byteAt.applyAsInt(k);
         }
         return text.toString();
     }
