@@ -48,6 +48,41 @@ final class Check {
         }
     }
 
+    /** The words of the document that name a boundary case, and the test of that case. */
+    void sentence(String words, Runnable cases) {
+        sentence(words, "", cases);
+    }
+
+    /**
+     * Words that name several cases have a test for each of them. They are printed if the test
+     * finds a wrong answer, and a test that asks nothing is wrong, too.
+     */
+    void sentence(String words, String which, Runnable cases) {
+        int askedBefore = asked;
+        int wrongBefore = wrong;
+        try {
+            cases.run();
+        } catch (RuntimeException | AssertionError e) {
+            tell("a call threw " + e);
+        }
+        if (asked == askedBefore) {
+            tell("nothing was asked");
+        }
+        if (wrong != wrongBefore) {
+            System.out.println(test + ": this does not hold: \"" + words + "\" " + which);
+        }
+    }
+
+    /** What a refused call must leave as it was: all that can be seen of a house behind a run. */
+    void leavesAll(String call, View.Run before, View.Run refused) {
+        due(call + " leaves all", View.all(before.then(refused)), View.all(before));
+    }
+
+    /** What a refused request must leave: all but the draft and the reply. */
+    void leavesHouse(String request, View.Run before, View.Run refused) {
+        due(request + " leaves the house", View.house(before.then(refused)), View.house(before));
+    }
+
     int wrong() {
         return wrong;
     }
