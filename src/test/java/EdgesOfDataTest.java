@@ -145,6 +145,13 @@ public final class EdgesOfDataTest {
         refused("c 128 before a run", 80, 2, 128, 3, 1);
         refused("c 128 behind a run", 80, 2, 1, 1, 128, 1, 1);
         refused("c 128 behind a row", 80, 2, 3, 1, 128);
+        refused("c 128 and a pixel before a run of four", 80, 2, 128, 1, 3, 1);
+        refused("c 128 and a pixel before a run of three", 80, 2, 128, 1, 2, 1);
+        refused("c 128 and a pixel behind a run of three", 80, 2, 2, 1, 128, 1);
+        refused("c 128 and a pixel before three unlike", 80, 2, 128, 1, 254, 2, 3, 4);
+        refused("c 128 and a pixel four times", 80, 2, 128, 1, 128, 2, 128, 3, 128, 4);
+        refused("c 128 and four pixels", 80, 2, 128, 1, 2, 3, 4);
+        refused("c 128 between two runs", 80, 2, 1, 1, 128, 1, 2);
         refused("c 128 and 129 pixels", Request.raw(80, 2, 128).data(new int[129]).bytes());
         taken("pixel 128", data(80, 2, 3, 128), 128);
     }
